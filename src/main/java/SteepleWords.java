@@ -48,10 +48,6 @@ public final class SteepleWords {
         for (int i = 0; i < saved.length; i++) {
             saved[i] = false;
         }
-        return doCommandsOfText();
-    }
-
-    private int doCommandsOfText() {
         int leftOut = 0;
         text.readHead();
         for (int i = 0; i < Text.MOST_SIGNS && text.readCommand(); i++) {
@@ -496,8 +492,8 @@ public final class SteepleWords {
             measures[at + B] = b;
             measures[at + C] = c;
             measures[at + E] = e;
-            measures[at + LEAST] = kind == WORD ? a : leastHeight(a, b, c - e);
-            measures[at + GREATEST] = kind == WORD ? b : greatestHeight(a, b, c + e);
+            measures[at + LEAST] = withinFeet(kind == WORD ? a : leastHeight(a, b, c - e));
+            measures[at + GREATEST] = withinFeet(kind == WORD ? b : greatestHeight(a, b, c + e));
             count++;
             came++;
             return count - 1;
@@ -505,11 +501,11 @@ public final class SteepleWords {
 
         // c - e may be negative, where / would round up: floorDiv rounds down there, too.
         private static int leastHeight(int a, int b, int far) {
-            return b < 1 ? 1 : withinFeet(Math.floorDiv(a * far, b));
+            return b < 1 ? 1 : Math.floorDiv(a * far, b);
         }
 
         private static int greatestHeight(int a, int b, int far) {
-            return b < 1 ? 1 : withinFeet((a * far + b - 1) / b);
+            return b < 1 ? 1 : (a * far + b - 1) / b;
         }
 
         private static int withinFeet(int h) {
@@ -624,8 +620,9 @@ public final class SteepleWords {
             return number(k, TELLER) != number(other, TELLER) && feetApart(k, other) > 0;
         }
 
+        // Setting 1 is never below 0, so that measures so far apart have no height in common.
         private boolean matters(int k, int other) {
-            return quarrel(k, other) && feetApart(k, other) > settings[1];
+            return number(k, TELLER) != number(other, TELLER) && feetApart(k, other) > settings[1];
         }
 
         int quarrelsOfMeasure(int k) {

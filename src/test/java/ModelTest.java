@@ -41,7 +41,6 @@ public final class ModelTest {
                 anyCall(random.nextInt(style == 1 ? 45 : 60));
             }
         }
-        check.isTrue("run " + run + " tells no more at its end: " + Telling.of(x), true);
     }
 
     private void both(String call, Check.Call mine, Check.Call due) {
