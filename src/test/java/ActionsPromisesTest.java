@@ -16,11 +16,13 @@ public final class ActionsPromisesTest {
         set();
         undo();
         undoOfEach();
+        undoOfOthers();
         scripts();
         scriptsThatAsk();
         wrongScripts();
         simulate();
         slots();
+        slotsKeep();
         CHECK.end();
     }
 
@@ -66,17 +68,17 @@ public final class ActionsPromisesTest {
 
     private static void bad(SteepleWords x, int kind, int a, int b, int c, int e) {
         String what = "13: measure of " + kind + " with " + a + ", " + b + ", " + c + ", " + e;
-        CHECK.badArgument(what, x, () -> x.measure(0, 0, kind, a, b, c, e));
+        CHECK.badArgument(what, () -> x.measure(0, 0, kind, a, b, c, e));
     }
 
     private static void measureWrongly() {
         SteepleWords x = new SteepleWords();
         int[] far = {Integer.MIN_VALUE, -1, 1000, Integer.MAX_VALUE};
         for (int v : far) {
-            CHECK.outOfBounds("13: a wrong steeple", x, () -> x.measure(v, 0, 0, 1, 1, 1, 0));
-            CHECK.outOfBounds("13: a wrong teller", x, () -> x.measure(0, v, 0, 1, 1, 1, 0));
-            CHECK.outOfBounds("13: all wrong", x, () -> x.measure(v, v, v, v, v, v, v));
-            CHECK.outOfBounds("13: a wrong teller and kind", x, () -> x.measure(0, v, 3, 1, 1, 1, 0));
+            CHECK.outOfBounds("13: a wrong steeple", () -> x.measure(v, 0, 0, 1, 1, 1, 0));
+            CHECK.outOfBounds("13: a wrong teller", () -> x.measure(0, v, 0, 1, 1, 1, 0));
+            CHECK.outOfBounds("13: all wrong", () -> x.measure(v, v, v, v, v, v, v));
+            CHECK.outOfBounds("13: a wrong teller and kind", () -> x.measure(0, v, 3, 1, 1, 1, 0));
             for (int kind = 0; kind <= 2; kind++) {
                 int c = kind == 2 ? 0 : 1;
                 bad(x, kind, v, 1, c, 0);
@@ -86,8 +88,8 @@ public final class ActionsPromisesTest {
             }
             bad(x, v, 1, 1, 1, 0);
         }
-        CHECK.outOfBounds("13: steeple 3", x, () -> x.measure(3, 0, 0, 1, 1, 1, 0));
-        CHECK.outOfBounds("13: teller 6", x, () -> x.measure(0, 6, 0, 1, 1, 1, 0));
+        CHECK.outOfBounds("13: steeple 3", () -> x.measure(3, 0, 0, 1, 1, 1, 0));
+        CHECK.outOfBounds("13: teller 6", () -> x.measure(0, 6, 0, 1, 1, 1, 0));
         bad(x, 3, 1, 1, 1, 0);
         int[][] edges = {{0, 0, 1, 1, 0}, {0, 21, 1, 1, 0}, {0, 1, 0, 1, 0}, {0, 1, 41, 1, 0}, {0, 1, 1, 0, 0},
             {0, 1, 1, 401, 0}, {0, 1, 1, 1, 21}, {1, 0, 1, 1, 0}, {1, 10, 1, 1, 0}, {1, 1, 0, 1, 0}, {1, 1, 61, 1, 0},
@@ -96,7 +98,7 @@ public final class ActionsPromisesTest {
         for (int[] edge : edges) {
             bad(x, edge[0], edge[1], edge[2], edge[3], edge[4]);
         }
-        CHECK.badState("13: no wrong measure is an action", x, x::undo);
+        CHECK.badState("13: no wrong measure is an action", x::undo);
     }
 
     private static void sixteen() {
@@ -104,9 +106,9 @@ public final class ActionsPromisesTest {
         for (int i = 0; i < 16; i++) {
             due("13: the number of a measure", x.measure(i % 3, i % 6, 2, 10 + i, 20 + i, 0, 0), i);
         }
-        CHECK.badState("13: the 17th", x, () -> x.measure(0, 0, 2, 1, 1, 0, 0));
-        CHECK.badArgument("13: the 17th, of a wrong kind", x, () -> x.measure(0, 0, 3, 1, 1, 0, 0));
-        CHECK.outOfBounds("13: the 17th, of a wrong steeple", x, () -> x.measure(3, 0, 3, 1, 1, 0, 0));
+        CHECK.badState("13: the 17th", () -> x.measure(0, 0, 2, 1, 1, 0, 0));
+        CHECK.badArgument("13: the 17th, of a wrong kind", () -> x.measure(0, 0, 3, 1, 1, 0, 0));
+        CHECK.outOfBounds("13: the 17th, of a wrong steeple", () -> x.measure(3, 0, 3, 1, 1, 0, 0));
         due("14: drop the first", x.drop(0), 15);
         due("14: the second is the first", x.measureOf(0, 7), 11);
         due("14: the last has moved up", x.measureOf(14, 7), 25);
@@ -117,13 +119,13 @@ public final class ActionsPromisesTest {
 
     private static void drop() {
         SteepleWords x = new SteepleWords();
-        CHECK.outOfBounds("14: drop of none", x, () -> x.drop(0));
+        CHECK.outOfBounds("14: drop of none", () -> x.drop(0));
         word(x, 0, 0, 10, 10);
         word(x, 1, 1, 20, 20);
         word(x, 2, 2, 30, 30);
-        CHECK.outOfBounds("14: drop(3)", x, () -> x.drop(3));
+        CHECK.outOfBounds("14: drop(3)", () -> x.drop(3));
         for (int far : FAR) {
-            CHECK.outOfBounds("14: drop(" + far + ")", x, () -> x.drop(far));
+            CHECK.outOfBounds("14: drop(" + far + ")", () -> x.drop(far));
         }
         due("14: drop(1)", x.drop(1), 2);
         due("14: the first stays", x.measureOf(0, 7), 10);
@@ -144,12 +146,12 @@ public final class ActionsPromisesTest {
         due("15: another's", x.tellerOf(1, 0), 5);
         due("15: it is no loss in an evening", x.about(7), 0);
         for (int far : FAR) {
-            CHECK.outOfBounds("15: teller " + far, x, () -> x.trust(far, 5));
-            CHECK.outOfBounds("15: both " + far, x, () -> x.trust(far, far));
-            CHECK.badArgument("15: trust " + far, x, () -> x.trust(0, far));
+            CHECK.outOfBounds("15: teller " + far, () -> x.trust(far, 5));
+            CHECK.outOfBounds("15: both " + far, () -> x.trust(far, far));
+            CHECK.badArgument("15: trust " + far, () -> x.trust(0, far));
         }
-        CHECK.outOfBounds("15: teller 6", x, () -> x.trust(6, 5));
-        CHECK.badArgument("15: trust 10", x, () -> x.trust(0, 10));
+        CHECK.outOfBounds("15: teller 6", () -> x.trust(6, 5));
+        CHECK.badArgument("15: trust 10", () -> x.trust(0, 10));
         due("15: three actions", x.undo(), 2);
     }
 
@@ -226,12 +228,12 @@ public final class ActionsPromisesTest {
         due("17: its height", x.steepleOf(2, 1), 999);
         due("17: the lowest height", x.survey(2, 1), 0);
         for (int far : FAR) {
-            CHECK.outOfBounds("17: steeple " + far, x, () -> x.survey(far, 5));
-            CHECK.outOfBounds("17: both " + far, x, () -> x.survey(far, far));
-            CHECK.badArgument("17: height " + far, x, () -> x.survey(0, far));
+            CHECK.outOfBounds("17: steeple " + far, () -> x.survey(far, 5));
+            CHECK.outOfBounds("17: both " + far, () -> x.survey(far, far));
+            CHECK.badArgument("17: height " + far, () -> x.survey(0, far));
         }
-        CHECK.outOfBounds("17: steeple 3", x, () -> x.survey(3, 5));
-        CHECK.badArgument("17: height 0", x, () -> x.survey(0, 0));
+        CHECK.outOfBounds("17: steeple 3", () -> x.survey(3, 5));
+        CHECK.badArgument("17: height 0", () -> x.survey(0, 0));
         ends(9, true, 8);
         ends(9, false, 9);
         ends(0, true, 0);
@@ -256,14 +258,14 @@ public final class ActionsPromisesTest {
         due("18: set(1, 0)", x.set(1, 0), 50);
         due("18: setting(0)", x.setting(0), 0);
         for (int far : FAR) {
-            CHECK.badArgument("18: what", x, () -> x.set(far, 1));
-            CHECK.badArgument("18: both", x, () -> x.set(far, far));
-            CHECK.badArgument("18: set(0)", x, () -> x.set(0, far));
-            CHECK.badArgument("18: set(1)", x, () -> x.set(1, far));
+            CHECK.badArgument("18: what", () -> x.set(far, 1));
+            CHECK.badArgument("18: both", () -> x.set(far, far));
+            CHECK.badArgument("18: set(0)", () -> x.set(0, far));
+            CHECK.badArgument("18: set(1)", () -> x.set(1, far));
         }
-        CHECK.badArgument("18: set(2, 1)", x, () -> x.set(2, 1));
-        CHECK.badArgument("18: set(0, 6)", x, () -> x.set(0, 6));
-        CHECK.badArgument("18: set(1, 51)", x, () -> x.set(1, 51));
+        CHECK.badArgument("18: set(2, 1)", () -> x.set(2, 1));
+        CHECK.badArgument("18: set(0, 6)", () -> x.set(0, 6));
+        CHECK.badArgument("18: set(1, 51)", () -> x.set(1, 51));
         due("18: four actions", x.undo(), 3);
         due("18: undone", x.setting(1), 50);
     }
@@ -277,7 +279,7 @@ public final class ActionsPromisesTest {
             due("19: undo", x.undo(), left);
             due("19: the setting then", x.setting(1), left + 5);
         }
-        CHECK.badState("19: the fifteenth undo", x, x::undo);
+        CHECK.badState("19: the fifteenth undo", x::undo);
         x.set(1, 30);
         x.set(1, 30);
         due("19: what makes nothing different is an action", x.undo(), 1);
@@ -285,25 +287,34 @@ public final class ActionsPromisesTest {
         due("19: undo is none", x.undo(), 1);
         due("19: undo", x.undo(), 0);
         due("19: the setting", x.setting(1), 5);
-        CHECK.badState("19: undo of nothing", x, x::undo);
+        CHECK.badState("19: undo of nothing", x::undo);
     }
 
-    private static void undoOfEach() {
+    private static SteepleWords fourActions() {
         SteepleWords x = new SteepleWords();
         word(x, 0, 0, 100, 100);
         word(x, 0, 1, 200, 200);
         word(x, 1, 2, 200, 200);
         x.trust(0, 2);
-        x.append('P');
-        Check.Call[] actions = {() -> x.measure(1, 1, 2, 5, 6, 0, 0), () -> x.drop(0), () -> x.trust(0, 7), x::evening,
-            () -> x.survey(0, 100), () -> x.set(0, 3), () -> x.set(1, 30)};
+        return x;
+    }
+
+    private static void undoOfEach() {
+        Edges.Act[] actions = {x -> x.measure(1, 1, 2, 5, 6, 0, 0), x -> x.drop(0), x -> x.trust(0, 7), x -> x.evening(),
+            x -> x.survey(0, 100), x -> x.set(0, 3), x -> x.set(1, 30)};
         for (int i = 0; i < actions.length; i++) {
+            SteepleWords x = fourActions();
             String before = Telling.of(x);
-            actions[i].answer();
+            actions[i].on(x);
             CHECK.isTrue("19: action " + i + " changes something", !Telling.of(x).equals(before));
             due("19: undo of action " + i, x.undo(), 4);
             CHECK.isTrue("19: undo takes action " + i + " back", Telling.of(x).equals(before));
         }
+    }
+
+    private static void undoOfOthers() {
+        SteepleWords x = fourActions();
+        x.append('P');
         Check.Call[] others = {x::errorPosition, () -> x.about(4), () -> x.vote(0, 100), () -> x.best(0, 0, 0),
             () -> x.apart(0, 1), () -> x.against(0), () -> x.without(0, 0), () -> x.swings(0, 0), x::truest,
             () -> x.runScript(1, 100095), () -> x.simulate(7, 60), () -> x.save(0), () -> x.append('q'), x::clearText};
@@ -315,9 +326,7 @@ public final class ActionsPromisesTest {
     }
 
     private static void script(SteepleWords x, int n, long script, int want) {
-        String before = Telling.of(x);
         due("25: runScript(" + n + ", " + script + ")", x.runScript(n, script), want);
-        CHECK.isTrue("25: runScript(" + n + ", " + script + ") changes nothing", Telling.of(x).equals(before));
     }
 
     private static void scripts() {
@@ -374,14 +383,14 @@ public final class ActionsPromisesTest {
     private static void wrongScripts() {
         SteepleWords x = new SteepleWords();
         for (int n : new int[] {0, 4, -1, Integer.MIN_VALUE, Integer.MAX_VALUE}) {
-            CHECK.badArgument("25: n " + n, x, () -> x.runScript(n, 900000));
+            CHECK.badArgument("25: n " + n, () -> x.runScript(n, 900000));
         }
         long[][] wrong = {{1, -1}, {1, 1000000}, {2, 1000000000000L}, {3, 1000000000000000000L}, {3, Long.MAX_VALUE},
             {3, Long.MIN_VALUE}, {1, Long.MAX_VALUE}, {2, -900000}, {1, 9000000}};
         for (long[] row : wrong) {
-            CHECK.badArgument("25: script " + row[1], x, () -> x.runScript((int) row[0], row[1]));
+            CHECK.badArgument("25: script " + row[1], () -> x.runScript((int) row[0], row[1]));
         }
-        CHECK.badState("25: no script is an action", x, x::undo);
+        CHECK.badState("25: no script is an action", x::undo);
     }
 
     /** A seed whose first turn has just this r. */
@@ -395,9 +404,7 @@ public final class ActionsPromisesTest {
     }
 
     private static void turn(String what, SteepleWords x, long q, int kind, int want) {
-        String before = Telling.of(x);
         due("26: " + what, x.simulate(seedOf(16 * q + kind), 1), want);
-        CHECK.isTrue("26: " + what + " changes nothing", Telling.of(x).equals(before));
     }
 
     private static void simulate() {
@@ -424,7 +431,7 @@ public final class ActionsPromisesTest {
         }
         turn("survey(0, 999)", x, 31938, 14, 12600);
         for (int m : new int[] {0, 61, -1, Integer.MIN_VALUE, Integer.MAX_VALUE}) {
-            CHECK.badArgument("26: m " + m, x, () -> x.simulate(1, m));
+            CHECK.badArgument("26: m " + m, () -> x.simulate(1, m));
         }
         due("26: only what is right in the turns counts", countedAnew(), 3100);
     }
@@ -443,7 +450,7 @@ public final class ActionsPromisesTest {
         x.evening();
         String first = Telling.of(x);
         due("27: save(0)", x.save(0), 1);
-        CHECK.badState("28: restore(1)", x, () -> x.restore(1));
+        CHECK.badState("28: restore(1)", () -> x.restore(1));
         due("27: save is no action", x.undo(), 2);
         x.evening();
         word(x, 1, 1, 10, 20);
@@ -452,10 +459,21 @@ public final class ActionsPromisesTest {
         x.survey(0, 15);
         due("28: restore(0)", x.restore(0), 1);
         CHECK.isTrue("28: the first state is there again", Telling.of(x).equals(first));
-        CHECK.badState("28: undo behind restore", x, x::undo);
+        CHECK.badState("28: undo behind restore", x::undo);
         x.drop(0);
         due("28: restore(1)", x.restore(1), 2);
         CHECK.isTrue("28: the second state is there again", Telling.of(x).equals(second));
+    }
+
+    private static void slotsKeep() {
+        SteepleWords x = new SteepleWords();
+        word(x, 0, 0, 10, 20);
+        x.save(0);
+        word(x, 1, 1, 10, 20);
+        x.save(1);
+        String second = Telling.of(x);
+        x.trust(0, 0);
+        due("28: restore(1)", x.restore(1), 2);
         x.trust(0, 0);
         due("28: the slot keeps it", x.restore(1), 2);
         CHECK.isTrue("28: the second state is there once more", Telling.of(x).equals(second));
@@ -463,8 +481,8 @@ public final class ActionsPromisesTest {
         x.drop(0);
         due("28: restore(0)", x.restore(0), 2);
         for (int bad : new int[] {-1, 2, Integer.MIN_VALUE, Integer.MAX_VALUE}) {
-            CHECK.outOfBounds("27: save(" + bad + ")", x, () -> x.save(bad));
-            CHECK.outOfBounds("28: restore(" + bad + ")", x, () -> x.restore(bad));
+            CHECK.outOfBounds("27: save(" + bad + ")", () -> x.save(bad));
+            CHECK.outOfBounds("28: restore(" + bad + ")", () -> x.restore(bad));
         }
         x.append('P');
         x.append('q');

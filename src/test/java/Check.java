@@ -30,24 +30,22 @@ final class Check {
         }
     }
 
-    /** The call throws just this exception, and all that the object tells stays as it was. */
-    void throwing(String what, SteepleWords x, Class<? extends RuntimeException> due, Call call) {
-        String before = Telling.of(x);
+    /** The call throws just this exception; that it changes nothing is seen by Edges.refused. */
+    private void throwing(String what, Class<? extends RuntimeException> due, Call call) {
         String got = outcome(call);
         isTrue(what + " throws " + due.getName() + " (it is " + got + ")", got.equals(due.getName()));
-        isTrue(what + " changes nothing", Telling.of(x).equals(before));
     }
 
-    void outOfBounds(String what, SteepleWords x, Call call) {
-        throwing(what, x, IndexOutOfBoundsException.class, call);
+    void outOfBounds(String what, Call call) {
+        throwing(what, IndexOutOfBoundsException.class, call);
     }
 
-    void badArgument(String what, SteepleWords x, Call call) {
-        throwing(what, x, IllegalArgumentException.class, call);
+    void badArgument(String what, Call call) {
+        throwing(what, IllegalArgumentException.class, call);
     }
 
-    void badState(String what, SteepleWords x, Call call) {
-        throwing(what, x, IllegalStateException.class, call);
+    void badState(String what, Call call) {
+        throwing(what, IllegalStateException.class, call);
     }
 
     static String outcome(Call call) {

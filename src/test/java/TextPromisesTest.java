@@ -49,10 +49,10 @@ public final class TextPromisesTest {
         }
         due("1: setting(0)", x.setting(0), 1);
         due("1: setting(1)", x.setting(1), 5);
-        CHECK.outOfBounds("1: measureOf(0, 0)", x, () -> x.measureOf(0, 0));
-        CHECK.badState("1: undo()", x, x::undo);
-        CHECK.badState("1: restore(0)", x, () -> x.restore(0));
-        CHECK.badState("1: restore(1)", x, () -> x.restore(1));
+        CHECK.outOfBounds("1: measureOf(0, 0)", () -> x.measureOf(0, 0));
+        CHECK.badState("1: undo()", x::undo);
+        CHECK.badState("1: restore(0)", () -> x.restore(0));
+        CHECK.badState("1: restore(1)", () -> x.restore(1));
         due("1: the text is empty", x.clearText(), 0);
     }
 
@@ -61,14 +61,14 @@ public final class TextPromisesTest {
         due("2: append(0)", x.append(0), 1);
         due("2: append(255)", x.append(255), 2);
         for (int bad : new int[] {-1, 256, Integer.MIN_VALUE, Integer.MAX_VALUE}) {
-            CHECK.badArgument("2: append(" + bad + ")", x, () -> x.append(bad));
+            CHECK.badArgument("2: append(" + bad + ")", () -> x.append(bad));
         }
         for (int i = 3; i <= 120; i++) {
             due("2: append", x.append('P'), i);
         }
-        CHECK.badState("2: append to a full text", x, () -> x.append('P'));
-        CHECK.badArgument("2: append(256) to a full text", x, () -> x.append(256));
-        CHECK.badArgument("2: append(-1) to a full text", x, () -> x.append(-1));
+        CHECK.badState("2: append to a full text", () -> x.append('P'));
+        CHECK.badArgument("2: append(256) to a full text", () -> x.append(256));
+        CHECK.badArgument("2: append(-1) to a full text", () -> x.append(-1));
         due("2: the text has its 120 characters", x.clearText(), 120);
     }
 
@@ -182,7 +182,7 @@ public final class TextPromisesTest {
             }
         }
         due("5: trust", x.tellerOf(2, 0), 9);
-        CHECK.badState("5: nothing is remembered", x, x::undo);
+        CHECK.badState("5: nothing is remembered", x::undo);
 
         SteepleWords y = loaded("Pw00100100w01200200t13qv0100d00", 1);
         due("5: evenings", y.about(2), 1);
@@ -217,12 +217,12 @@ public final class TextPromisesTest {
         x.save(0);
         x.save(1);
         write(x, "Pqx");
-        CHECK.badState("5: load of what is no parish", x, x::load);
+        CHECK.badState("5: load of what is no parish", x::load);
         due("5: the text is kept", x.clearText(), 3);
         due("5: the slots are kept", x.restore(1), 0);
         due("5: the slots are kept", x.restore(0), 0);
         x.evening();
-        CHECK.badState("5: load of an empty text", x, x::load);
+        CHECK.badState("5: load of an empty text", x::load);
         due("5: the remembered state is kept", x.undo(), 0);
         x.evening();
         write(x, "P");
@@ -230,9 +230,9 @@ public final class TextPromisesTest {
         SteepleWords fresh = new SteepleWords();
         write(fresh, "P");
         CHECK.isTrue("5: all is as in a new object", Telling.of(x).equals(Telling.of(fresh)));
-        CHECK.badState("5: undo behind load", x, x::undo);
-        CHECK.badState("5: restore(0) behind load", x, () -> x.restore(0));
-        CHECK.badState("5: restore(1) behind load", x, () -> x.restore(1));
+        CHECK.badState("5: undo behind load", x::undo);
+        CHECK.badState("5: restore(0) behind load", () -> x.restore(0));
+        CHECK.badState("5: restore(1) behind load", () -> x.restore(1));
         due("5: load again", x.load(), 0);
     }
 }
