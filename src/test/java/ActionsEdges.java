@@ -17,73 +17,37 @@ final class ActionsEdges {
     }
 
     private void measure() {
-        noSuchSteepleOrTeller();
-        threeSteeplesSixTellers();
-        shadowRange();
-        poolRange();
-        wordRange();
-        kinds();
-        argumentOutOfRange();
-        heightsInFeet();
-        roundedDownAndUp();
-        belowOneAboveMost();
-        numberedByAge();
-        sixteen();
-        measureNamesFirst();
+        edges.each(this::noSuchSteepleOrTeller, this::threeSteeplesSixTellers, this::shadowRange, this::poolRange,
+                this::wordRange, this::kinds, this::argumentOutOfRange, this::heightsInFeet, this::roundedDownAndUp,
+                this::belowOneAboveMost, this::numberedByAge, this::sixteen, this::measureNamesFirst);
     }
 
     private void drop() {
-        noSuchMeasure();
-        measuresThen();
-        oneLess();
+        edges.each(this::noSuchMeasure, this::measuresThen, this::oneLess);
     }
 
     private void trust() {
-        trustOfNoTeller();
-        trustOutOfRange();
-        trustInRange();
-        trustNamesFirst();
-        previousTrust();
+        edges.each(this::trustOfNoTeller, this::trustOutOfRange, this::trustInRange, this::trustNamesFirst,
+                this::previousTrust);
     }
 
     private void evening() {
-        trustLost();
-        eveningsBecomeOneMore();
-        apartByMore();
-        byTheNumbers();
-        withWhatWasLost();
-        lesserWeight();
-        zeroStaysZero();
-        likeWeights();
+        edges.each(this::trustLost, this::eveningsBecomeOneMore, this::apartByMore, this::byTheNumbers,
+                this::withWhatWasLost, this::lesserWeight, this::zeroStaysZero, this::likeWeights);
     }
 
     private void survey() {
-        surveyOfNoSteeple();
-        surveyOutOfRange();
-        surveyInRange();
-        surveyNamesFirst();
-        tellThatHeight();
-        gainsAndLoses();
-        byNumbers();
-        allAreGone();
+        edges.each(this::surveyOfNoSteeple, this::surveyOutOfRange, this::surveyInRange, this::surveyNamesFirst,
+                this::tellThatHeight, this::gainsAndLoses, this::byNumbers, this::allAreGone);
     }
 
     private void set() {
-        setOutOfRange();
-        setWhat();
-        settingsInRange();
-        previousSetting();
+        edges.each(this::setOutOfRange, this::setWhat, this::settingsInRange, this::previousSetting);
     }
 
     private void undo() {
-        noneRemembered();
-        fourteenStates();
-        stillRemembered();
-        nothingDifferent();
-        undoIsNone();
-        refusedIsNoAction();
-        rememberedBeforeEach();
-        everythingButTextAndSlots();
+        edges.each(this::noneRemembered, this::fourteenStates, this::stillRemembered, this::nothingDifferent,
+                this::undoIsNone, this::refusedIsNoAction, this::rememberedBeforeEach, this::everythingButTextAndSlots);
     }
 
     // ---- promise 13
@@ -771,30 +735,32 @@ final class ActionsEdges {
         edges.due("undo() takes the 16th back", full.about(0), 15);
     }
 
+    // Each action with arguments that all states allow, but for a measure where there are 16, and a drop of none.
+    private static final Edges.Act[] ACTIONS = {x -> x.measure(1, 1, 2, 5, 6, 0, 0), x -> x.drop(0), x -> x.trust(0, 0),
+        x -> x.evening(), x -> x.survey(0, 95), x -> x.survey(2, 95), x -> x.set(0, 0), x -> x.set(1, 50)};
+
     private void rememberedBeforeEach() {
         edges.sentence(19, "Before each action, the state is remembered.");
-        Edges.Act[] acts = {x -> x.measure(1, 1, 2, 5, 6, 0, 0), x -> x.drop(0), x -> x.trust(0, 0), x -> x.evening(),
-            x -> x.survey(0, 95), x -> x.survey(2, 95), x -> x.set(0, 0), x -> x.set(1, 50)};
-        for (int i = 0; i < acts.length; i++) {
+        String before = Telling.of(States.RICH.object());
+        for (int i = 0; i < ACTIONS.length; i++) {
             SteepleWords x = States.RICH.object();
-            acts[i].on(x);
-            edges.due("undo() of action " + i, x.undo(), 13);
-            edges.isTrue("all is as before action " + i, Telling.of(x).equals(Telling.of(States.RICH.object())));
+            ACTIONS[i].on(x);
+            edges.isTrue("action " + i + " changes something", !Telling.of(x).equals(before));
             SteepleWords y = States.RICH.object();
-            acts[i].on(y);
-            edges.isTrue("action " + i + " changes something", !Telling.of(y).equals(Telling.of(States.RICH.object())));
+            ACTIONS[i].on(y);
+            edges.due("undo() of action " + i, y.undo(), 13);
+            edges.isTrue("all is as before action " + i, Telling.of(y).equals(before));
         }
     }
 
     private void everythingButTextAndSlots() {
         edges.sentence(19, "change the state, which consists of everything but the text and the save slots.");
-        SteepleWords x = new SteepleWords();
-        States.word(x, 0, 0, 10, 20);
-        x.append('P');
-        x.save(0);
-        edges.due("undo()", x.undo(), 0);
-        edges.due("the text is as before", x.append('q'), 2);
-        edges.due("the slot is as before", x.restore(0), 1);
-        edges.isTrue("the other slot, too", Check.outcome(() -> x.restore(1)).equals("java.lang.IllegalStateException"));
+        for (int i = 0; i < ACTIONS.length; i++) {
+            edges.keepsTextAndSlots("action " + i, ACTIONS[i], States.ALL);
+            Edges.Act action = ACTIONS[i];
+            edges.keepsTextAndSlots("undo() of action " + i, x -> action.on(x) + x.undo(), States.RICH);
+        }
+        edges.keepsTextAndSlots("undo()", SteepleWords::undo, States.WITH_MEASURES);
+        edges.keepsTextAndSlots("undo() twice", x -> x.undo() + x.undo(), States.WITH_MEASURES);
     }
 }

@@ -21,6 +21,9 @@ final class Edges {
     static final Class<IllegalArgumentException> ARGUMENT = IllegalArgumentException.class;
     static final Class<IllegalStateException> STATE = IllegalStateException.class;
 
+    private static final int SEEN_TEXT = 1;
+    private static final int SEEN_SLOTS = 3;
+    private static final int SEEN_HISTORY = 5;
     private static final int MOST_UNDONE = 15;
 
     private final Document document;
@@ -75,6 +78,17 @@ final class Edges {
         return false;
     }
 
+    /** Each test by itself: what one of them throws is told under its sentence, and the next one goes on. */
+    void each(Runnable... tests) {
+        for (Runnable test : tests) {
+            try {
+                test.run();
+            } catch (RuntimeException e) {
+                isTrue("nothing throws here, but " + e, false);
+            }
+        }
+    }
+
     // ---- answers
 
     void due(String what, long got, long want) {
@@ -106,15 +120,38 @@ final class Edges {
     }
 
     private void changesNothing(String what, Act call, Make state) {
-        List<String> before = seenUntouched.computeIfAbsent(state, s -> seen(s, x -> 0));
-        isTrue(what + " leaves everything as it was", seen(state, call).equals(before));
+        isTrue(what + " leaves everything as it was", seen(state, call).equals(untouched(state)));
+    }
+
+    /** What the call answers and changes is free here, but for the text and the save slots. */
+    void keepsTextAndSlots(String what, Act call, Make... states) {
+        for (Make state : states) {
+            List<String> before = untouched(state).subList(SEEN_TEXT, SEEN_HISTORY);
+            isTrue(what + " keeps text and slots", seen(state, call).subList(SEEN_TEXT, SEEN_HISTORY).equals(before));
+        }
+    }
+
+    /** The call may change the text, but nothing else. */
+    void keepsAllButText(String what, Act call, Make... states) {
+        for (Make state : states) {
+            List<String> before = untouched(state);
+            List<String> then = seen(state, call);
+            isTrue(what + " keeps the state", then.get(0).equals(before.get(0)));
+            isTrue(what + " keeps slots and remembered states",
+                    then.subList(SEEN_SLOTS, then.size()).equals(before.subList(SEEN_SLOTS, before.size())));
+        }
     }
 
     // ---- all that can be seen of an object: each look needs an object of its own, since it changes it
 
+    private List<String> untouched(Make state) {
+        return seenUntouched.computeIfAbsent(state, s -> seen(s, x -> 0));
+    }
+
+    /** First the state, then the text, the slots, and the remembered states. */
     private static List<String> seen(Make state, Act call) {
         List<String> seen = new ArrayList<>();
-        seen.add(Telling.of(touched(state, call)));
+        seen.add(Telling.ofState(touched(state, call)));
         seen.add(seenText(touched(state, call)));
         seen.add(seenLonger(touched(state, call)));
         for (int slot = 0; slot <= 1; slot++) {
@@ -133,8 +170,10 @@ final class Edges {
     }
 
     private static String seenText(SteepleWords x) {
+        int error = x.errorPosition();
         String loaded = Check.outcome(x::load);
-        return "load " + loaded + Telling.of(x) + " length " + x.clearText();
+        String state = error == SteepleWords.NONE ? Telling.ofState(x) : "";
+        return "error " + error + " load " + loaded + state + " length " + x.clearText();
     }
 
     private static String seenLonger(SteepleWords x) {
@@ -144,7 +183,7 @@ final class Edges {
 
     private static String seenSlot(SteepleWords x, int slot) {
         String measures = Check.outcome(() -> x.restore(slot));
-        return "restore " + measures + Telling.of(x);
+        return "restore " + measures + (measures.startsWith("=") ? Telling.ofState(x) : "");
     }
 
     private static String seenBefore(SteepleWords x, int undone) {
@@ -152,7 +191,7 @@ final class Edges {
         for (int i = 0; i < undone; i++) {
             seen.append(' ').append(Check.outcome(x::undo));
         }
-        return seen.append(Telling.of(x)).toString();
+        return seen.append(Telling.ofState(x)).toString();
     }
 
     // ---- numbers

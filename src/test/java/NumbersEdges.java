@@ -19,70 +19,37 @@ final class NumbersEdges {
     }
 
     private void about() {
-        aboutRange();
-        aboutMeasures();
-        aboutCame();
-        aboutEvenings();
-        aboutSurveys();
-        aboutQuarrels();
-        aboutFarQuarrels();
-        aboutTrust();
-        aboutLost();
-        aboutRight();
+        edges.each(this::aboutRange, this::aboutMeasures, this::aboutCame, this::aboutEvenings, this::aboutSurveys,
+                this::aboutQuarrels, this::aboutFarQuarrels, this::aboutTrust, this::aboutLost, this::aboutRight);
     }
 
     private void measureOf() {
-        noSuchMeasure();
-        measureWhat();
-        measureNamesFirst();
-        givenNumbers();
-        weight();
-        quarrelsOfMeasure();
-        quarrelsByCommonHeight();
+        edges.each(this::noSuchMeasure, this::measureWhat, this::measureNamesFirst, this::givenNumbers, this::weight,
+                this::quarrelsOfMeasure, this::quarrelsByCommonHeight);
     }
 
     private void tellerOf() {
-        noSuchTeller();
-        tellerWhat();
-        tellerNamesFirst();
-        measuresOfTeller();
-        rightAndWrong();
-        quarrelsOfTeller();
+        edges.each(this::noSuchTeller, this::tellerWhat, this::tellerNamesFirst, this::measuresOfTeller,
+                this::rightAndWrong, this::quarrelsOfTeller);
     }
 
     private void steepleOf() {
-        noSuchSteeple();
-        steepleWhat();
-        steepleNamesFirst();
-        measuresOfSteeple();
-        latestSurvey();
-        weightsTogether();
+        edges.each(this::noSuchSteeple, this::steepleWhat, this::steepleNamesFirst, this::measuresOfSteeple,
+                this::latestSurvey, this::weightsTogether);
     }
 
     private void vote() {
-        voteSteeple();
-        voteHeight();
-        voteEnds();
-        voteNamesFirst();
-        fromLeastToGreatest();
-        votesTogether();
+        edges.each(this::voteSteeple, this::voteHeight, this::voteEnds, this::voteNamesFirst, this::fromLeastToGreatest,
+                this::votesTogether);
     }
 
     private void best() {
-        bestSteeple();
-        bestRange();
-        bestWhat();
-        bestWay();
-        bestNamesFirst();
-        withoutMeasures();
-        lowestHeight();
-        oneByOne();
-        bothWaysAgree();
+        edges.each(this::bestSteeple, this::bestRange, this::bestWhat, this::bestWay, this::bestNamesFirst,
+                this::withoutMeasures, this::lowestHeight, this::oneByOne, this::bothWaysAgree);
     }
 
     private void setting() {
-        settingRange();
-        settingWhat();
+        edges.each(this::settingRange, this::settingWhat);
     }
 
     // ---- promise 6

@@ -21,66 +21,31 @@ final class ScriptsEdges {
     }
 
     private void runScript() {
-        commandCount();
-        scriptDigits();
-        scriptIsRefused();
-        highestGroupFirst();
-        firstThatFails();
-        onACopy();
-        otherGroups();
-        anotherDigit();
-        failIfItWouldThrow();
-        doNotExist();
+        edges.each(this::commandCount, this::scriptDigits, this::scriptIsRefused, this::highestGroupFirst,
+                this::firstThatFails, this::onACopy, this::otherGroups, this::anotherDigit, this::failIfItWouldThrow,
+                this::doNotExist);
     }
 
     private void commands() {
-        wordCommand();
-        dropCommand();
-        trustCommand();
-        eveningCommand();
-        noEveningAlways();
-        surveyCommand();
-        lowestCommand();
-        voteCommand();
-        atLeastTrustCommand();
-        quarrelsCommand();
+        edges.each(this::wordCommand, this::dropCommand, this::trustCommand, this::eveningCommand, this::noEveningAlways,
+                this::surveyCommand, this::lowestCommand, this::voteCommand, this::atLeastTrustCommand,
+                this::quarrelsCommand);
     }
 
     private void simulate() {
-        turnsOutOfRange();
-        turnsInRange();
-        longOverflow();
-        leastAndGreatestSeeds();
-        shiftedWithoutSign();
-        shadowTurn();
-        poolTurn();
-        wordTurn();
-        dropTurn();
-        eveningTurn();
-        settingTurn();
-        surveyTurn();
-        leftOutTurns();
-        countedInTheTurns();
-        simulatedOnACopy();
+        edges.each(this::turnsOutOfRange, this::turnsInRange, this::longOverflow, this::leastAndGreatestSeeds,
+                this::shiftedWithoutSign, this::shadowTurn, this::poolTurn, this::wordTurn, this::dropTurn,
+                this::eveningTurn, this::settingTurn, this::surveyTurn, this::leftOutTurns, this::countedInTheTurns,
+                this::simulatedOnACopy);
     }
 
     private void save() {
-        noSuchSlotToSave();
-        savedMeasures();
-        twoSlots();
-        presentState();
-        saveIsNoAction();
+        edges.each(this::noSuchSlotToSave, this::savedMeasures, this::twoSlots, this::presentState, this::saveIsNoAction);
     }
 
     private void restore() {
-        noSuchSlot();
-        nothingSaved();
-        restoreNamesFirst();
-        restorableSlots();
-        measuresThen();
-        forgetsRemembered();
-        slotKeepsIt();
-        restoreKeepsText();
+        edges.each(this::noSuchSlot, this::nothingSaved, this::restoreNamesFirst, this::restorableSlots,
+                this::measuresThen, this::forgetsRemembered, this::slotKeepsIt, this::restoreKeepsText);
     }
 
     // ---- promise 25: n and script
@@ -89,6 +54,7 @@ final class ScriptsEdges {
         edges.sentence(25, "- `n`: number of commands, 1 to 3");
         for (int n : Edges.outside(1, 3)) {
             edges.refused(Edges.ARGUMENT, "runScript(" + n + ", 400000)", x -> x.runScript(n, 400000), States.ALL);
+            edges.refused(Edges.ARGUMENT, "runScript(" + n + ", 0)", x -> x.runScript(n, 0), States.ALL);
             edges.refused(Edges.ARGUMENT, "runScript(" + n + ", -1)", x -> x.runScript(n, -1), States.ALL);
         }
         edges.telling("one command", x -> x.runScript(1, 400000L), NONE, States.ALL);
@@ -832,6 +798,8 @@ final class ScriptsEdges {
 
     private void restoreKeepsText() {
         edges.sentence(28, "everything but the text and the save slots.");
+        edges.keepsTextAndSlots("restore(1)", x -> x.restore(1), States.WITH_MEASURES);
+        edges.keepsTextAndSlots("restore(0)", x -> x.restore(0), States.RICH, States.FULL);
         SteepleWords x = States.FULL.object();
         x.restore(0);
         edges.due("the other slot", x.restore(1), 16);

@@ -1,15 +1,20 @@
 /** All that an object tells by calls that change nothing. */
 final class Telling {
     static String of(SteepleWords x) {
+        return "error " + x.errorPosition() + ofState(x);
+    }
+
+    /** All but what the text makes different. */
+    static String ofState(SteepleWords x) {
         StringBuilder told = new StringBuilder();
-        told.append("error ").append(x.errorPosition());
         for (int what = 0; what <= 9; what++) {
             told.append(" about ").append(x.about(what));
         }
         for (int what = 0; what <= 1; what++) {
             told.append(" setting ").append(x.setting(what));
         }
-        for (int k = 0; k < x.about(0); k++) {
+        int measures = x.about(0);
+        for (int k = 0; k < measures; k++) {
             for (int what = 0; what <= 10; what++) {
                 told.append(" m").append(k).append(' ').append(x.measureOf(k, what));
             }

@@ -22,59 +22,29 @@ final class TextEdges {
     }
 
     private void newObject() {
-        none();
-        newParish();
-        trustAtFirst();
-        eveningsAtFirst();
-        settingsAtFirst();
-        nothingIsKeptAtFirst();
-        callsOfAnObject();
+        edges.each(this::none, this::newParish, this::trustAtFirst, this::eveningsAtFirst, this::settingsAtFirst,
+                this::nothingIsKeptAtFirst, this::callsOfAnObject);
     }
 
     private void append() {
-        appendCharacters();
-        appendLength();
-        mostCharacters();
-        appendOutOfRange();
-        appendToFullText();
-        appendNamesFirst();
+        edges.each(this::appendCharacters, this::appendLength, this::mostCharacters, this::appendOutOfRange,
+                this::appendToFullText, this::appendNamesFirst, this::appendIsNoAction);
     }
 
     private void clearText() {
-        emptiesText();
-        previousLength();
-        textIsNoState();
+        edges.each(this::emptiesText, this::previousLength, this::textIsNoState);
     }
 
     private void errorPosition() {
-        headOfParish();
-        anyNumberOfCommands();
-        letters();
-        steepleAndTeller();
-        shadowDigits();
-        poolDigits();
-        wordDigits();
-        dropDigits();
-        trustDigits();
-        eveningHasNone();
-        surveyDigits();
-        noBlanks();
-        leftToRight();
-        firstWrongCharacter();
-        endsTooSoon();
-        noneIfParish();
-        checkChangesNothing();
+        edges.each(this::headOfParish, this::anyNumberOfCommands, this::letters, this::steepleAndTeller,
+                this::shadowDigits, this::poolDigits, this::wordDigits, this::dropDigits, this::trustDigits,
+                this::eveningHasNone, this::surveyDigits, this::noBlanks, this::leftToRight, this::firstWrongCharacter,
+                this::endsTooSoon, this::noneIfParish, this::checkChangesNothing);
     }
 
     private void load() {
-        loadMakesNew();
-        loadDoesCommands();
-        loadLeavesOut();
-        loadCountsLeftOut();
-        loadForgets();
-        loadKeepsText();
-        loadIsRefused();
-        loadIsNoAction();
+        edges.each(this::loadMakesNew, this::loadDoesCommands, this::loadLeavesOut, this::loadCountsLeftOut,
+                this::loadForgets, this::loadKeepsText, this::loadIsRefused, this::loadIsNoAction);
     }
 
     // ---- promise 1
@@ -222,6 +192,11 @@ final class TextEdges {
         edges.refused(Edges.ARGUMENT, "append(-1) to 120 characters", x -> x.append(-1), States.FULL);
     }
 
+    private void appendIsNoAction() {
+        edges.sentence(2, "change the state, which consists of everything but the text and the save slots.");
+        edges.keepsAllButText("append('q')", x -> x.append('q'), States.FRESH, States.RICH, States.ODD);
+    }
+
     // ---- promise 3
 
     private void emptiesText() {
@@ -251,23 +226,8 @@ final class TextEdges {
 
     private void textIsNoState() {
         edges.sentence(3, "change the state, which consists of everything but the text and the save slots.");
-        SteepleWords x = States.written("Pq");
-        x.evening();
-        x.save(0);
-        x.clearText();
-        x.undo();
-        edges.due("clearText() behind undo()", x.clearText(), 0);
-        x.append('P');
-        x.restore(0);
-        edges.due("clearText() behind restore(0)", x.clearText(), 1);
-        edges.refused(Edges.STATE, "undo() behind append and clearText alone", SteepleWords::undo, TextEdges::cleared);
-    }
-
-    private static SteepleWords cleared() {
-        SteepleWords x = States.written("Pq");
-        x.clearText();
-        x.append('P');
-        return x;
+        edges.keepsAllButText("clearText()", SteepleWords::clearText, States.ALL);
+        edges.keepsAllButText("clearText() and append", x -> x.clearText() + x.append('P'), States.ALL);
     }
 
     // ---- promise 4

@@ -17,47 +17,28 @@ final class WouldBeEdges {
     }
 
     private void apart() {
-        noSuchMeasures();
-        leastLessGreatest();
-        heightInCommon();
-        notOfOneSteeple();
-        apartChangesNothing();
+        edges.each(this::noSuchMeasures, this::leastLessGreatest, this::heightInCommon, this::notOfOneSteeple,
+                this::apartChangesNothing);
     }
 
     private void against() {
-        againstNoSteeple();
-        nobodyAgainst();
-        greatestWeight();
-        farthest();
-        lowestOfThose();
-        lowestBestHeight();
-        againstChangesNothing();
+        edges.each(this::againstNoSteeple, this::nobodyAgainst, this::greatestWeight, this::farthest, this::lowestOfThose,
+                this::lowestBestHeight, this::againstInFullParish, this::againstChangesNothing);
     }
 
     private void without() {
-        withoutNoMeasure();
-        withoutOutOfRange();
-        withoutNamesFirst();
-        withoutWhat();
-        withoutTheOnlyOne();
-        withoutThatAlone();
+        edges.each(this::withoutNoMeasure, this::withoutOutOfRange, this::withoutNamesFirst, this::withoutWhat,
+                this::withoutTheOnlyOne, this::withoutThatAlone);
     }
 
     private void swings() {
-        swingsOfNoTellerOrSteeple();
-        leastTrust();
-        noTrustIsEnough();
-        ofThisTeller();
-        lowestBestIsTold();
-        swingsChangesNothing();
+        edges.each(this::swingsOfNoTellerOrSteeple, this::leastTrust, this::noTrustIsEnough, this::ofThisTeller,
+                this::swingsInFullParish, this::lowestBestIsTold, this::swingsChangesNothing);
     }
 
     private void truest() {
-        rightOrWrongAtAll();
-        greatestShare();
-        moreOfBoth();
-        lowestOfSeveral();
-        truestChangesNothing();
+        edges.each(this::rightOrWrongAtAll, this::greatestShare, this::moreOfBoth, this::lowestOfSeveral,
+                this::truestChangesNothing);
     }
 
     // ---- promise 20
@@ -202,6 +183,17 @@ final class WouldBeEdges {
         edges.due("a steeple of its own", x.against(1), NONE);
     }
 
+    private void againstInFullParish() {
+        edges.sentence(21, "Finds the measure that speaks most against the best height.");
+        edges.due("the last is the farthest of fifteen", States.spread().against(0), 15);
+        SteepleWords x = States.spread();
+        x.trust(1, 4);
+        x.trust(3, 4);
+        edges.due("the last is lighter, the one ahead of it is not", x.against(0), 14);
+        x.trust(2, 4);
+        edges.due("nor is the one ahead of that", x.against(0), 12);
+    }
+
     private void againstChangesNothing() {
         edges.sentence(21, "what would be; these and all following methods up to the save slots change nothing.");
         edges.telling("against(1)", x -> x.against(1), NONE, States.FRESH, States.ODD);
@@ -318,6 +310,11 @@ final class WouldBeEdges {
         edges.due("nor has the trust that is", words(new int[][] {{0, 200, 200}, {1, 100, 100}}, 9, 9).swings(0, 0), NONE);
         edges.due("another one's measure", words(new int[][] {{0, 200, 200}, {1, 100, 100}}).swings(2, 0), NONE);
         edges.due("of another steeple", words(new int[][] {{0, 1, 999}}).swings(0, 1), NONE);
+        SteepleWords x = words(new int[][] {{1, 1, 999}, {0, 1, 999}});
+        x.drop(1);
+        edges.due("the last measure is gone", x.swings(0, 0), NONE);
+        x.survey(0, 1);
+        edges.due("all measures are gone", x.swings(1, 0), NONE);
     }
 
     private void ofThisTeller() {
@@ -328,6 +325,16 @@ final class WouldBeEdges {
         edges.due("the other needs 1", words(rows, 0, 9).swings(1, 0), 1);
         edges.due("the other needs 9", words(rows, 3, 0).swings(1, 0), 9);
         edges.due("the other has too little", words(rows, 4, 9).swings(1, 0), NONE);
+    }
+
+    private void swingsInFullParish() {
+        edges.sentence(23, "of this teller with which a measure of this teller tells the lowest best height of the steeple");
+        edges.due("the lowest of sixteen", States.spread().swings(0, 0), 5);
+        for (int t = 1; t <= 5; t++) {
+            edges.due("one of the others", States.spread().swings(t, 0), 6);
+        }
+        edges.due("eight of sixteen that agree", States.together().swings(1, 1), 0);
+        edges.due("none of sixteen", States.together().swings(2, 1), NONE);
     }
 
     private void lowestBestIsTold() {
