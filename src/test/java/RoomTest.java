@@ -34,6 +34,7 @@ public final class RoomTest {
             x.evening();
             x.apart(0, 0);
             x.against(s);
+            x.vote(s, 95);
             x.without(0, 0);
             x.swings(i % 6, s);
             x.truest();
